@@ -12,6 +12,8 @@ public final class AttachTest {
         sectorsGoneBad();
         erasedSectorBetween();
         forgedChunks();
+        lastSectorGone();
+        allPages();
         CHECK.end();
     }
 
@@ -195,7 +197,9 @@ public final class AttachTest {
         CHECK.due("an end that tells too many", attachForged(endChunk(0, 1)), 0);
         CHECK.due("an end with a wrong sum", attachForged(wrongSum), 0);
         CHECK.due("an end with a wrong filling", attachForged(wrongFill), 0);
-        CHECK.due("an end with a wrong number", attachForged(endChunk(1, 1)), 0);
+        CHECK.due("an end with a wrong number", attachForged(endChunk(1, 0)), 0);
+        CHECK.due("a page with a wrong number", attachForged(pageChunk(1, 5, -16, 8)), 0);
+        CHECK.due("a page with a number again", attachForged(pageChunk(0, 5, -16, 8), pageChunk(0, 6, -16, 8)), 1);
         CHECK.due("an end with a packing of 3", attachForged(chunk(50000, -1, 3, 0, 1, 5)), 0);
         CHECK.due("an end with a packing of 1", attachForged(chunk(50000, -1, 1, 0, 1, 2)), 0);
         CHECK.due("one page and its end", attachForged(pageChunk(0, 5, -16, 8), endChunk(1, 1)), 101);
@@ -265,5 +269,33 @@ public final class AttachTest {
             words[k] = k - 3 < packing.length ? packing[k - 3] : k;
         }
         return chunk(words);
+    }
+
+    /** What an earlier attach read must not stand in for sectors that are not there any more. */
+    private static void lastSectorGone() {
+        DumpDesk x = forge(pageChunk(0, 2, COUNTING));
+        CHECK.due("attach", x.attach(), 1);
+        int last = 95;
+        while (x.area(last, 0) != COUNTING[13] || x.area(last, 1) != COUNTING[14]) {
+            last--;
+        }
+        x.sector(last, true);
+        CHECK.due("attach without the last sector", x.attach(), 0);
+    }
+
+    private static void allPages() {
+        DumpDesk x = new DumpDesk();
+        for (int page = 1; page < 15; page++) {
+            x.file(true, 1000 * page);
+        }
+        for (int k = 0; k < 16; k++) {
+            x.log(k * k);
+        }
+        x.halt();
+        CHECK.due("dump", x.dump(200), 0);
+        CHECK.due("attach", x.attach(), 116);
+        for (int address = 0; address < 256; address++) {
+            CHECK.due("word(" + address + ")", x.word(address), x.memory(address));
+        }
     }
 }

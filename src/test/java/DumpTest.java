@@ -121,19 +121,22 @@ public final class DumpTest {
         x.poke(15, 0);
         x.poke(9, 0x7fff0100 | 255);
         x.poke(10, 0x7fff0200 | 4);
+        x.poke(11, 3);
+        x.poke(96, -1);
         x.poke(240, 5);
         for (int page = 1; page < 6; page++) {
             x.poke(page * 16 + 15, page);
         }
         x.halt();
         CHECK.due("dump", x.dump(200), 0);
-        CHECK.due("attach", x.attach(), 104);
+        CHECK.due("attach", x.attach(), 105);
         CHECK.due("page 0 is always stored", x.word(9), 0x7fff01ff);
         CHECK.missing("page 1 is free", () -> x.word(31));
         CHECK.due("page 2 has flag 255", x.word(47), 2);
         CHECK.due("page 3 has flag 1", x.word(63), 3);
         CHECK.due("page 4 has flag 4", x.word(79), 4);
         CHECK.missing("page 5 is clean", () -> x.word(95));
+        CHECK.due("page 6 has one word", x.word(96), -1);
         CHECK.missing("page 15 is free", () -> x.word(240));
     }
 
