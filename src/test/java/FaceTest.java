@@ -4,13 +4,15 @@ import java.lang.reflect.Method;
 import java.lang.reflect.Modifier;
 import java.nio.file.Files;
 import java.nio.file.Path;
+import java.util.ArrayList;
+import java.util.List;
 import java.util.Set;
 import java.util.TreeSet;
 
-/** The face of the class is the document's, and the file keeps to those rules of the language that a text shows. */
+/** The face of the class is the document's, and the class keeps to those rules of LANGUAGE.md that can be seen. */
 public final class FaceTest {
     private static final Check CHECK = new Check("FaceTest");
-    private static final String SOURCE = "src/main/java/DumpDesk.java";
+    private static final Path SOURCE = Path.of("src/main/java/DumpDesk.java");
 
     private static final Set<String> FACE = Set.of(
             "int taskNew(int)", "int taskEnd(int)", "void waitOn(int,int)", "int wake(int)", "void timer(int)",
@@ -18,12 +20,27 @@ public final class FaceTest {
             "void sector(int,boolean)", "int dump(int)", "int area(int,int)", "int attach()", "int word(int)",
             "int walk(int)", "int broken(int)", "int node(int,int)");
 
+    private static final Set<String> IMPORTS = Set.of("java.util.Arrays", "java.util.NoSuchElementException",
+            "java.util.ArrayList", "java.util.List", "java.util.Iterator", "java.util.*");
+
     public static void main(String[] args) throws Exception {
-        methods();
-        otherMembers();
-        nestedClasses();
-        source(Files.readString(Path.of(SOURCE)));
+        String text = Files.readString(SOURCE);
+        CHECK.sentence("The public face", FaceTest::methods);
+        CHECK.sentence("1. no other public, protected or package-visible member", FaceTest::otherMembers);
+        CHECK.sentence("2. no lambda, no method reference; 6. No synchronized", FaceTest::plainMethods);
+        CHECK.sentence("5. Static fields are final", FaceTest::staticFields);
+        CHECK.sentence("11. the file has at most some twelve classes", () ->
+                CHECK.same("classes " + classes().size() + " are few", classes().size() <= 13, true));
+        CHECK.sentence("4. The library: only what stands here.", () -> imports(text));
         CHECK.end();
+    }
+
+    private static List<Class<?>> classes() {
+        List<Class<?>> classes = new ArrayList<>(List.of(DumpDesk.class));
+        for (int k = 0; k < classes.size(); k++) {
+            classes.addAll(List.of(classes.get(k).getDeclaredClasses()));
+        }
+        return classes;
     }
 
     private static String signature(Method method) {
@@ -38,14 +55,18 @@ public final class FaceTest {
         Set<String> open = new TreeSet<>();
         Set<String> names = new TreeSet<>();
         for (Method method : DumpDesk.class.getDeclaredMethods()) {
-            if (!Modifier.isPrivate(method.getModifiers())) {
+            if (Modifier.isPublic(method.getModifiers())) {
                 open.add(signature(method));
-                CHECK.same(method.getName() + " is public", Modifier.isPublic(method.getModifiers()), true);
+                names.add(method.getName());
                 CHECK.same(method.getName() + " is static", Modifier.isStatic(method.getModifiers()), false);
             }
-            CHECK.same(method.getName() + " is there once", names.add(method.getName()), true);
         }
         CHECK.same("the methods", open, new TreeSet<>(FACE));
+        for (Method method : DumpDesk.class.getDeclaredMethods()) {
+            if (Modifier.isPrivate(method.getModifiers())) {
+                CHECK.same(method.getName() + " bears a public name", names.contains(method.getName()), false);
+            }
+        }
     }
 
     private static void otherMembers() {
@@ -57,31 +78,44 @@ public final class FaceTest {
         for (Field field : DumpDesk.class.getDeclaredFields()) {
             CHECK.same(field.getName() + " is private", Modifier.isPrivate(field.getModifiers()), true);
         }
+        for (Method method : DumpDesk.class.getDeclaredMethods()) {
+            int modifiers = method.getModifiers();
+            boolean seen = Modifier.isPublic(modifiers) || Modifier.isPrivate(modifiers) || method.isSynthetic();
+            CHECK.same(method.getName() + " is public or private", seen, true);
+        }
+        for (Class<?> inside : DumpDesk.class.getDeclaredClasses()) {
+            int modifiers = inside.getModifiers();
+            CHECK.same(inside.getName() + " is open", Modifier.isPublic(modifiers) || Modifier.isProtected(modifiers),
+                    false);
+        }
     }
 
-    private static void nestedClasses() {
-        Class<?>[] nested = DumpDesk.class.getDeclaredClasses();
-        CHECK.same("at most twelve classes", nested.length < 12, true);
-        for (Class<?> inside : nested) {
-            CHECK.same(inside.getName() + " is static", Modifier.isStatic(inside.getModifiers()), true);
-            for (Field field : inside.getDeclaredFields()) {
-                CHECK.same(field.getName() + " is static", Modifier.isStatic(field.getModifiers()), false);
+    private static void plainMethods() {
+        for (Class<?> type : classes()) {
+            for (Method method : type.getDeclaredMethods()) {
+                CHECK.same(method + " is a lambda", method.getName().startsWith("lambda$"), false);
+                CHECK.same(method + " is synchronized", Modifier.isSynchronized(method.getModifiers()), false);
+                CHECK.same(method + " takes more than seven", method.getParameterCount() > 7, false);
             }
         }
     }
 
-    private static void source(String text) {
-        String[] outside = {"->", "::", "package ", "synchronized", "assert ", "finally", "System.out", "java.io",
-            "Random", "currentTime", "nanoTime", "Exact("};
-        for (String part : outside) {
-            CHECK.same("the file has " + part, text.contains(part), false);
+    private static void staticFields() {
+        for (Class<?> type : classes()) {
+            for (Field field : type.getDeclaredFields()) {
+                int modifiers = field.getModifiers();
+                CHECK.same(field + " is static and not final", Modifier.isStatic(modifiers)
+                        && !Modifier.isFinal(modifiers) && !field.isSynthetic(), false);
+            }
         }
+    }
+
+    private static void imports(String text) {
         for (String line : text.split("\n")) {
             if (line.startsWith("import ")) {
-                String name = line.substring(7);
-                boolean listed = name.equals("java.util.Arrays;") || name.equals("java.util.NoSuchElementException;");
-                CHECK.same(line + " is listed", listed, true);
+                CHECK.same(line + " is listed", IMPORTS.contains(line.substring(7).replace(";", "").trim()), true);
             }
+            CHECK.same(line + " is a package line", line.startsWith("package "), false);
         }
     }
 }

@@ -60,7 +60,31 @@ final class Model {
     }
 
     private void runs() {
-        state(!halted && poked == null);
+        state(runsOn());
+    }
+
+    boolean runsOn() {
+        return !halted && poked == null;
+    }
+
+    boolean isHalted() {
+        return halted;
+    }
+
+    boolean hasTask(int i) {
+        return i >= 0 && i < lists.get(0).size();
+    }
+
+    boolean hasPageZero() {
+        return pages.containsKey(0);
+    }
+
+    boolean isWalked() {
+        return walked != null;
+    }
+
+    boolean hasNode(int k) {
+        return walked != null && k >= 0 && k < walked.size();
     }
 
     private Node take(int tag, int first, int second) {
@@ -98,7 +122,7 @@ final class Model {
 
     int taskEnd(int i) {
         runs();
-        element(i >= 0 && i < lists.get(0).size());
+        element(hasTask(i));
         Node task = lists.get(0).remove(i);
         for (int list = 2; list < 6; list++) {
             for (Node waiter : lists.get(list)) {
@@ -115,7 +139,7 @@ final class Model {
     void waitOn(int i, int queue) {
         runs();
         argument(queue >= 0 && queue <= 3);
-        element(i >= 0 && i < lists.get(0).size());
+        element(hasTask(i));
         Node task = lists.get(0).get(i);
         Node waiter = take(7003, task.address, 0);
         waiter.task = task;
@@ -409,7 +433,7 @@ final class Model {
     int node(int k, int what) {
         argument(what >= 0 && what <= 2);
         state(walked != null);
-        element(k >= 0 && k < walked.size());
+        element(hasNode(k));
         return what == 0 ? walked.get(k) : word(walked.get(k) + 1 + what);
     }
 }

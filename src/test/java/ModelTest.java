@@ -1,14 +1,18 @@
 import java.util.Random;
 import java.util.function.IntSupplier;
 
-/** All promises together: random runs, each answer and all the state against the Model. */
+/**
+ * All promises together: random runs of at most 512 calls, each answer against the Model's. Where two things are wrong
+ * with a call and the document does not say which one is told, the call is not made.
+ */
 public final class ModelTest {
     private static final Check CHECK = new Check("ModelTest");
-    private static final int RUNS = 3000;
-    private static final int CALLS = 200;
+    private static final int RUNS = 6000;
+    private static final int KERNEL_CALLS = 200;
+    private static final int AREA_CALLS = 30;
 
     private final Random random;
-    private final DumpDesk desk = new DumpDesk();
+    private final Desk desk = new Desk();
     private final Model model = new Model();
     private final String run;
 
@@ -18,19 +22,20 @@ public final class ModelTest {
     }
 
     public static void main(String[] args) {
-        for (int seed = 0; seed < RUNS; seed++) {
-            new ModelTest(seed).play(seed);
-        }
+        CHECK.sentence("all promises", () -> {
+            for (int seed = 0; seed < RUNS; seed++) {
+                new ModelTest(seed).play(seed);
+            }
+        });
         CHECK.end();
     }
 
     private void play(int seed) {
-        int kernelCalls = random.nextInt(CALLS);
+        int kernelCalls = random.nextInt(KERNEL_CALLS);
         int taskShare = random.nextInt(5);
         for (int k = 0; k < kernelCalls; k++) {
             kernelCall(random.nextInt(8) < taskShare ? 0 : random.nextInt(8));
         }
-        sameMemory();
         if (seed % 3 != 0) {
             damage(1 + random.nextInt(12));
         }
@@ -39,11 +44,14 @@ public final class ModelTest {
         }
         both("halt()", () -> { desk.halt(); return 0; }, () -> { model.halt(); return 0; });
         kernelCall(random.nextInt(9));
-        for (int k = 0; k < 40; k++) {
+        for (int k = 0; k < AREA_CALLS; k++) {
             areaCall(random.nextInt(8));
         }
-        sameMemory();
-        sameArea();
+        if (seed % 2 == 0) {
+            sameMemory(random.nextInt(256));
+        } else {
+            sameArea(random.nextInt(96));
+        }
     }
 
     private static String outcome(IntSupplier call) {
@@ -55,7 +63,9 @@ public final class ModelTest {
     }
 
     private void both(String call, IntSupplier onDesk, IntSupplier onModel) {
-        CHECK.same(run + call, outcome(onDesk), outcome(onModel));
+        if (desk.callsLeft() > 0) {
+            CHECK.same(run + call, outcome(onDesk), outcome(onModel));
+        }
     }
 
     private int some(int bound) {
@@ -73,8 +83,7 @@ public final class ModelTest {
         switch (which) {
             case 0 -> both("taskNew", () -> desk.taskNew(a), () -> model.taskNew(a));
             case 1 -> both("taskEnd(" + a + ")", () -> desk.taskEnd(a), () -> model.taskEnd(a));
-            case 2, 3 -> both("waitOn(" + a + ", " + b + ")", () -> { desk.waitOn(a, b); return 0; },
-                    () -> { model.waitOn(a, b); return 0; });
+            case 2, 3 -> waitOn(a, model.runsOn() && !model.hasTask(a) ? random.nextInt(4) : b);
             case 4 -> both("wake(" + b + ")", () -> desk.wake(b), () -> model.wake(b));
             case 5 -> both("timer", () -> { desk.timer(a); return 0; }, () -> { model.timer(a); return 0; });
             case 6 -> {
@@ -83,8 +92,13 @@ public final class ModelTest {
                 }
             }
             case 7 -> both("log", () -> { desk.log(a); return 0; }, () -> { model.log(a); return 0; });
-            default -> poke(some(256), value());
+            default -> poke(model.isHalted() ? random.nextInt(256) : some(256), value());
         }
+    }
+
+    private void waitOn(int i, int queue) {
+        both("waitOn(" + i + ", " + queue + ")", () -> { desk.waitOn(i, queue); return 0; },
+                () -> { model.waitOn(i, queue); return 0; });
     }
 
     private void poke(int address, int word) {
@@ -106,23 +120,19 @@ public final class ModelTest {
     }
 
     private void areaCall(int which) {
-        int a = some(which == 0 ? 96 : 6);
         switch (which) {
-            case 0 -> badSector(a, random.nextInt(3) > 0);
+            case 0 -> badSector(some(96), random.nextInt(3) > 0);
             case 1 -> badSector(random.nextInt(12), random.nextBoolean());
             case 2, 3 -> dump();
             case 4 -> both("attach()", desk::attach, model::attach);
-            case 5 -> sameWords();
-            default -> {
-                both("walk(" + a + ")", () -> desk.walk(a), () -> model.walk(a));
-                sameWalk();
-            }
+            case 5 -> someWords();
+            default -> walk(model.hasPageZero() ? some(6) : random.nextInt(6));
         }
     }
 
     private void dump() {
-        int power = random.nextInt(3) == 0 ? 200 : some(60);
-        if (random.nextInt(6) == 0) {
+        int power = !model.isHalted() ? random.nextInt(201) : random.nextInt(3) == 0 ? 200 : some(60);
+        if (random.nextInt(12) == 0) {
             int from = random.nextInt(40);
             for (int sector = from; sector < 96; sector++) {
                 badSector(sector, true);
@@ -137,39 +147,38 @@ public final class ModelTest {
                 () -> { model.sector(sector, bad); return 0; });
     }
 
-    private void sameMemory() {
-        for (int address = -1; address <= 256; address++) {
-            int at = address;
+    private void sameMemory(int from) {
+        for (int k = 0; desk.callsLeft() > 0 && k < 258; k++) {
+            int at = (from + k) % 258 - 1;
             both("memory(" + at + ")", () -> desk.memory(at), () -> model.memory(at));
         }
     }
 
-    private void sameArea() {
-        for (int sector = -1; sector <= 96; sector++) {
-            for (int word = -1; word <= 8; word++) {
-                int s = sector;
-                int w = word;
-                both("area(" + s + ", " + w + ")", () -> desk.area(s, w), () -> model.area(s, w));
-            }
+    private void sameArea(int from) {
+        for (int k = 0; desk.callsLeft() > 0 && k < 96 * 8; k++) {
+            int s = (from + k / 8) % 96;
+            int w = k % 8;
+            both("area(" + s + ", " + w + ")", () -> desk.area(s, w), () -> model.area(s, w));
         }
     }
 
-    private void sameWords() {
-        for (int address = -1; address <= 256; address += 1 + random.nextInt(5)) {
-            int at = address;
+    private void someWords() {
+        for (int k = 0; k < 10; k++) {
+            int at = some(256);
             both("word(" + at + ")", () -> desk.word(at), () -> model.word(at));
         }
     }
 
-    private void sameWalk() {
-        for (int what = -1; what <= 2; what++) {
-            int w = what;
-            both("broken(" + w + ")", () -> desk.broken(w), () -> model.broken(w));
-        }
-        for (int node = -1; node <= 56; node++) {
-            int k = node;
-            int w = random.nextInt(5) - 1;
-            both("node(" + k + ", " + w + ")", () -> desk.node(k, w), () -> model.node(k, w));
+    private void walk(int list) {
+        both("walk(" + list + ")", () -> desk.walk(list), () -> model.walk(list));
+        int what = model.isWalked() ? some(2) : random.nextInt(2);
+        both("broken(0)", () -> desk.broken(0), () -> model.broken(0));
+        both("broken(1)", () -> desk.broken(1), () -> model.broken(1));
+        both("broken(" + what + ")", () -> desk.broken(what), () -> model.broken(what));
+        for (int k = 0; k < 4; k++) {
+            int node = some(8);
+            int w = model.hasNode(node) ? some(3) : random.nextInt(3);
+            both("node(" + node + ", " + w + ")", () -> desk.node(node, w), () -> model.node(node, w));
         }
     }
 }
