@@ -371,6 +371,8 @@ public final class AttachTest {
         CHECK.due("word(240)", x.word(240), MAX);
         CHECK.due("word(241)", x.word(241), 0);
         CHECK.due("word(255)", x.word(255), -1);
+        REFUSED.questionOnly("word(0)", Scenes::walked, z -> z.word(0));
+        REFUSED.questionOnly("word(255)", Scenes::walked, z -> z.word(255));
     }
 
     private static void noPage() {

@@ -360,6 +360,8 @@ public final class DumpTest {
             REFUSED.argument(call, Scenes::empty, x -> x.area(a[0], a[1]));
             REFUSED.argument(call + " behind a dump", Scenes::walked, x -> x.area(a[0], a[1]));
         }
+        REFUSED.questionOnly("area(0, 0)", Scenes::walked, x -> x.area(0, 0));
+        REFUSED.questionOnly("area(95, 7)", Scenes::walked, x -> x.area(95, 7));
         CHECK.due("area(95, 7)", Scenes.dumped().area(95, 7), -1);
         CHECK.due("area(0, 0)", Scenes.dumped().area(0, 0), 50000);
     }

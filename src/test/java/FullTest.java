@@ -16,16 +16,17 @@ public final class FullTest {
 
     private static void everyPlace() {
         Desk x = new Desk();
+        x.log(-5);
         for (int k = 0; k < 56; k++) {
             CHECK.due("taskNew", x.taskNew(k), k);
             CHECK.memoryIs(x, 16 + 4 * k, 7001, 0, k, k);
         }
         CHECK.memoryIs(x, 8, 257, 257, 257, 257, 257, 257, 257, 257);
-        CHECK.memoryIs(x, 0, 16, 0, 0, 0, 0, 0, 0, 0);
-        CHECK.memoryIs(x, 240, new int[16]);
+        CHECK.memoryIs(x, 0, 16, 0, 0, 0, 0, 0, 1, 0);
+        CHECK.memoryIs(x, 240, -5, 0, 0, 0, 0, 0, 0, 0, 0, 0, 0, 0, 0, 0, 0, 0);
         CHECK.state("the 57th", () -> x.taskNew(0));
         CHECK.memoryIs(x, 237, 0);
-        CHECK.memoryIs(x, 240, 0, 0, 0, 0);
+        CHECK.memoryIs(x, 240, -5, 0, 0, 0, 0, 0, 0, 0, 0, 0, 0, 0, 0, 0, 0, 0);
     }
 
     private static Desk nodes(int count) {

@@ -93,6 +93,8 @@ public final class PokeHaltTest {
             REFUSED.argument("memory(" + address + ")", Scenes::busy, x -> x.memory(address));
             REFUSED.argument("halted memory(" + address + ")", Scenes::halted, x -> x.memory(address));
         }
+        REFUSED.questionOnly("memory(0)", Scenes::busy, x -> x.memory(0));
+        REFUSED.questionOnly("memory(255)", Scenes::walked, x -> x.memory(255));
         Desk x = new Desk();
         x.poke(0, 4);
         x.poke(255, 5);
@@ -113,6 +115,8 @@ public final class PokeHaltTest {
         x.halt();
         CHECK.due("area", x.area(0, 0), 50000);
         CHECK.due("node", x.node(0, 0), 16);
+        REFUSED.questionOnly("halt() once more", Scenes::halted, z -> z.halt());
+        REFUSED.questionOnly("halt() behind a walk", Scenes::walked, z -> z.halt());
         Desk y = Scenes.poked();
         y.halt();
         refusesAll(y);
@@ -131,6 +135,17 @@ public final class PokeHaltTest {
         x.halt();
         for (int address = 0; address < 256; address++) {
             CHECK.memoryIs(x, address, before.memory(address));
+        }
+        for (int from = 0; from < 256; from += 128) {
+            Desk y = new Desk();
+            for (int address = from; address < from + 128; address++) {
+                y.poke(address, 7 * address + 1);
+            }
+            y.halt();
+            y.dump(200);
+            for (int address = from; address < from + 128; address++) {
+                CHECK.memoryIs(y, address, 7 * address + 1);
+            }
         }
     }
 }

@@ -60,6 +60,11 @@ final class Refusal {
         refused(name, "IllegalArgumentException or NoSuchElementException", scene, call);
     }
 
+    /** Not refused at all, but a question: nothing is changed by it either. */
+    void questionOnly(String name, Scene scene, Call call) {
+        refused(name, "nothing thrown", scene, call);
+    }
+
     private void refused(String name, String due, Scene scene, Call call) {
         for (int k = 0; k < PROBES.size(); k++) {
             Desk with = scene.make();

@@ -303,6 +303,10 @@ public final class WalkTest {
         sound(x, 0, 16, 5, 0, 20, -6, 1, 24, 7, 2);
         CHECK.due("attach", x.attach(), 0);
         CHECK.state("walk(0)", () -> x.walk(0));
+        Desk forged = Forge.area(CHECK, Chunk.page(0, 0, 1, 16, -15, 0), Chunk.page(1, 1, 4, 7001, 0, 33, 44, -12, 0));
+        CHECK.due("attach of what memory never had", forged.attach(), 2);
+        sound(forged, 0, 16, 33, 44);
+        sound(forged, 1);
     }
 
     private static void noSuchList() {
@@ -353,6 +357,8 @@ public final class WalkTest {
         CHECK.due("broken(0)", x.broken(0), 0);
         CHECK.due("broken(1)", x.broken(1), -1);
         CHECK.due("broken(1) again", x.broken(1), -1);
+        REFUSED.questionOnly("broken(0)", Scenes::walked, z -> z.broken(0));
+        REFUSED.questionOnly("broken(1)", Scenes::walked, z -> z.broken(1));
         Desk y = new Desk();
         y.poke(0, 1);
         attachNow(y);
@@ -392,6 +398,10 @@ public final class WalkTest {
         x.dump(0);
         CHECK.due("a dump is no attach", x.broken(1), -1);
         CHECK.due("a dump is no attach", x.node(1, 1), 24);
+        x.sector(0, true);
+        x.halt();
+        CHECK.due("nor is a bad sector or a halt", x.broken(0), 0);
+        CHECK.due("nor is a bad sector or a halt", x.node(0, 0), 36);
         Desk refused = Scenes.attached();
         CHECK.argument("walk(6)", () -> refused.walk(6));
         CHECK.state("a walk that was refused is none", () -> refused.broken(0));
@@ -411,6 +421,8 @@ public final class WalkTest {
         sound(x, 2, 20, -999, 888);
         sound(x, 1, 24, MIN, MAX);
         sound(x, 0, 16, 0, 0);
+        REFUSED.questionOnly("node(0, 0)", Scenes::walked, z -> z.node(0, 0));
+        REFUSED.questionOnly("node(1, 2)", Scenes::walked, z -> z.node(1, 2));
     }
 
     private static void nodeNoSuchWhat() {
