@@ -4,14 +4,31 @@ final class Check {
         void run();
     }
 
+    /** Far above what a test needs: some seconds at most. */
+    private static final long PATIENCE_MILLIS = 300_000;
+
     private final String test;
-    private String sentence = "";
+    private volatile String sentence = "";
     private int sentences = 0;
     private int checks = 0;
     private int wrong = 0;
 
     Check(String test) {
         this.test = test;
+        Thread watch = new Thread(this::watch);
+        watch.setDaemon(true);
+        watch.start();
+    }
+
+    /** A call that does not end would keep the test from failing. */
+    private void watch() {
+        try {
+            Thread.sleep(PATIENCE_MILLIS);
+        } catch (InterruptedException e) {
+            return;
+        }
+        System.out.println(test + ": a call does not end [" + sentence + "]");
+        Runtime.getRuntime().halt(1);
     }
 
     /** One sentence of the document and its test, which goes wrong too when a call in it throws what is not due. */

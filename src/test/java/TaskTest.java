@@ -172,6 +172,24 @@ public final class TaskTest {
         CHECK.memoryIs(x, 2, 40, 56, 0, 0);
         CHECK.due("wake(0)", x.wake(0), 0);
         CHECK.missing("wake(2)", () -> x.wake(2));
+        othersStay();
+    }
+
+    /** How many words were logged stands behind the queues' heads, and here looks like a link to the task itself. */
+    private static void othersStay() {
+        Desk x = new Desk();
+        for (int k = 0; k < 16; k++) {
+            x.log(k);
+        }
+        x.taskNew(16);
+        x.taskNew(16);
+        x.timer(20);
+        CHECK.due("taskEnd(1)", x.taskEnd(1), 1);
+        CHECK.memoryIs(x, 0, 16, 24, 0, 0, 0, 0, 16, 0);
+        CHECK.memoryIs(x, 16, 7001, 0, 16, 0, 0, 0, 0, 0, 7002, 0, 20, 0);
+        CHECK.due("taskEnd(0)", x.taskEnd(0), 0);
+        CHECK.memoryIs(x, 0, 0, 24, 0, 0, 0, 0, 16, 0);
+        CHECK.memoryIs(x, 16, 0, 0, 0, 0, 0, 0, 0, 0, 7002, 0, 20, 0);
     }
 
     private static void newRefused() {
