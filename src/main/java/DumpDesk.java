@@ -47,6 +47,7 @@ public final class DumpDesk {
     private static final int DONE = 0;
     private static final int FULL = 1;
     private static final int LOST = 2;
+    private static final int WHOLE = 100;
 
     private final Kernel kernel;
     private final Sectors sectors;
@@ -154,7 +155,7 @@ public final class DumpDesk {
 
     public int attach() {
         boolean whole = reader.readAll();
-        return whole ? walker.pages + 100 : walker.pages;
+        return whole ? walker.pages + WHOLE : walker.pages;
     }
 
     public int word(int address) throws NoSuchElementException, IllegalArgumentException {
@@ -392,7 +393,7 @@ public final class DumpDesk {
         final boolean[] bad = new boolean[SECTORS];
 
         Sectors() {
-            Arrays.fill(words, ERASED);
+            eraseAll();
         }
 
         void eraseAll() {

@@ -2,45 +2,47 @@ import java.lang.reflect.Constructor;
 import java.lang.reflect.Field;
 import java.lang.reflect.Method;
 import java.lang.reflect.Modifier;
-import java.nio.file.Files;
-import java.nio.file.Path;
-import java.util.ArrayList;
 import java.util.List;
+import java.util.Map;
 import java.util.Set;
 import java.util.TreeSet;
+import java.util.stream.Stream;
 
-/** The face of the class is the document's, and the class keeps to those rules of LANGUAGE.md that can be seen. */
+/** The face of the class is the document's, and there is no other. */
 public final class FaceTest {
     private static final Check CHECK = new Check("FaceTest");
-    private static final Path SOURCE = Path.of("src/main/java/DumpDesk.java");
 
-    private static final Set<String> FACE = Set.of(
-            "int taskNew(int)", "int taskEnd(int)", "void waitOn(int,int)", "int wake(int)", "void timer(int)",
-            "int file(boolean,int)", "void log(int)", "void poke(int,int)", "int memory(int)", "void halt()",
-            "void sector(int,boolean)", "int dump(int)", "int area(int,int)", "int attach()", "int word(int)",
-            "int walk(int)", "int broken(int)", "int node(int,int)");
+    private static final String ARGUMENT = "IllegalArgumentException";
+    private static final String STATE = "IllegalStateException";
+    private static final String MISSING = "NoSuchElementException";
 
-    private static final Set<String> IMPORTS = Set.of("java.util.Arrays", "java.util.NoSuchElementException",
-            "java.util.ArrayList", "java.util.List", "java.util.Iterator", "java.util.*");
+    /** Each method with the exceptions that it declares. */
+    private static final Map<String, List<String>> FACE = Map.ofEntries(
+            Map.entry("int taskNew(int)", List.of(STATE)),
+            Map.entry("int taskEnd(int)", List.of(MISSING, STATE)),
+            Map.entry("void waitOn(int,int)", List.of(ARGUMENT, MISSING, STATE)),
+            Map.entry("int wake(int)", List.of(ARGUMENT, MISSING, STATE)),
+            Map.entry("void timer(int)", List.of(STATE)),
+            Map.entry("int file(boolean,int)", List.of(STATE)),
+            Map.entry("void log(int)", List.of(STATE)),
+            Map.entry("void poke(int,int)", List.of(ARGUMENT, STATE)),
+            Map.entry("int memory(int)", List.of(ARGUMENT)),
+            Map.entry("void halt()", List.of()),
+            Map.entry("void sector(int,boolean)", List.of(ARGUMENT)),
+            Map.entry("int dump(int)", List.of(ARGUMENT, STATE)),
+            Map.entry("int area(int,int)", List.of(ARGUMENT)),
+            Map.entry("int attach()", List.of()),
+            Map.entry("int word(int)", List.of(MISSING, ARGUMENT)),
+            Map.entry("int walk(int)", List.of(ARGUMENT, STATE)),
+            Map.entry("int broken(int)", List.of(ARGUMENT, STATE)),
+            Map.entry("int node(int,int)", List.of(ARGUMENT, STATE, MISSING)));
 
-    public static void main(String[] args) throws Exception {
-        String text = Files.readString(SOURCE);
-        CHECK.sentence("The public face", FaceTest::methods);
+    public static void main(String[] args) {
+        CHECK.sentence("The public face: its methods", FaceTest::methods);
+        CHECK.sentence("The public face: throws", FaceTest::exceptions);
         CHECK.sentence("1. no other public, protected or package-visible member", FaceTest::otherMembers);
-        CHECK.sentence("2. no lambda, no method reference; 6. No synchronized", FaceTest::plainMethods);
-        CHECK.sentence("5. Static fields are final", FaceTest::staticFields);
-        CHECK.sentence("11. the file has at most some twelve classes", () ->
-                CHECK.same("classes " + classes().size() + " are few", classes().size() <= 13, true));
-        CHECK.sentence("4. The library: only what stands here.", () -> imports(text));
+        CHECK.sentence("1. No private method bears the name of a public one.", FaceTest::privateNames);
         CHECK.end();
-    }
-
-    private static List<Class<?>> classes() {
-        List<Class<?>> classes = new ArrayList<>(List.of(DumpDesk.class));
-        for (int k = 0; k < classes.size(); k++) {
-            classes.addAll(List.of(classes.get(k).getDeclaredClasses()));
-        }
-        return classes;
     }
 
     private static String signature(Method method) {
@@ -51,17 +53,31 @@ public final class FaceTest {
         return text.append(')').toString();
     }
 
+    private static List<Method> publicMethods() {
+        return Stream.of(DumpDesk.class.getDeclaredMethods())
+                .filter(method -> Modifier.isPublic(method.getModifiers())).toList();
+    }
+
     private static void methods() {
         Set<String> open = new TreeSet<>();
-        Set<String> names = new TreeSet<>();
-        for (Method method : DumpDesk.class.getDeclaredMethods()) {
-            if (Modifier.isPublic(method.getModifiers())) {
-                open.add(signature(method));
-                names.add(method.getName());
-                CHECK.same(method.getName() + " is static", Modifier.isStatic(method.getModifiers()), false);
-            }
+        for (Method method : publicMethods()) {
+            open.add(signature(method));
+            CHECK.same(method.getName() + " is static", Modifier.isStatic(method.getModifiers()), false);
         }
-        CHECK.same("the methods", open, new TreeSet<>(FACE));
+        CHECK.same("the methods", open, new TreeSet<>(FACE.keySet()));
+    }
+
+    private static void exceptions() {
+        for (Method method : publicMethods()) {
+            List<String> declared = Stream.of(method.getExceptionTypes()).map(Class::getSimpleName).toList();
+            CHECK.same(signature(method) + " throws", declared, FACE.getOrDefault(signature(method), List.of()));
+        }
+        CHECK.due("exceptions of the constructor",
+                DumpDesk.class.getDeclaredConstructors()[0].getExceptionTypes().length, 0);
+    }
+
+    private static void privateNames() {
+        List<String> names = publicMethods().stream().map(Method::getName).toList();
         for (Method method : DumpDesk.class.getDeclaredMethods()) {
             if (Modifier.isPrivate(method.getModifiers())) {
                 CHECK.same(method.getName() + " bears a public name", names.contains(method.getName()), false);
@@ -87,35 +103,7 @@ public final class FaceTest {
             int modifiers = inside.getModifiers();
             CHECK.same(inside.getName() + " is open", Modifier.isPublic(modifiers) || Modifier.isProtected(modifiers),
                     false);
-        }
-    }
-
-    private static void plainMethods() {
-        for (Class<?> type : classes()) {
-            for (Method method : type.getDeclaredMethods()) {
-                CHECK.same(method + " is a lambda", method.getName().startsWith("lambda$"), false);
-                CHECK.same(method + " is synchronized", Modifier.isSynchronized(method.getModifiers()), false);
-                CHECK.same(method + " takes more than seven", method.getParameterCount() > 7, false);
-            }
-        }
-    }
-
-    private static void staticFields() {
-        for (Class<?> type : classes()) {
-            for (Field field : type.getDeclaredFields()) {
-                int modifiers = field.getModifiers();
-                CHECK.same(field + " is static and not final", Modifier.isStatic(modifiers)
-                        && !Modifier.isFinal(modifiers) && !field.isSynthetic(), false);
-            }
-        }
-    }
-
-    private static void imports(String text) {
-        for (String line : text.split("\n")) {
-            if (line.startsWith("import ")) {
-                CHECK.same(line + " is listed", IMPORTS.contains(line.substring(7).replace(";", "").trim()), true);
-            }
-            CHECK.same(line + " is a package line", line.startsWith("package "), false);
+            CHECK.same(inside.getName() + " is static", Modifier.isStatic(modifiers), true);
         }
     }
 }

@@ -31,6 +31,9 @@ public final class NewObjectTest {
     private static void firstArea() {
         CHECK.erased(new Desk(), 0, 48);
         CHECK.erased(new Desk(), 48, 96);
+        CHECK.erased(Scenes.busy(), 0, 16);
+        CHECK.erased(Scenes.poked(), 0, 16);
+        CHECK.erased(Scenes.halted(), 0, 16);
     }
 
     private static void notHalted() {
