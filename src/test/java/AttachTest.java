@@ -25,7 +25,6 @@ public final class AttachTest {
         CHECK.sentence("THE WALKER has the pages of these chunks; others are ABSENT.", AttachTest::absentPages);
         CHECK.sentence("how many pages the walker has, 100 more when it is whole", AttachTest::fewestAndMost);
         CHECK.sentence("Attaches: anew each time", AttachTest::again);
-        CHECK.sentence("Attaches: and nothing else", AttachTest::nothingElse);
         CHECK.sentence("A word as the walker has it.", AttachTest::words);
         CHECK.sentence("word: NoSuchElementException: its page is absent, or nothing was attached", AttachTest::noPage);
         CHECK.sentence("word: IllegalArgumentException: there is no such address (this first).",
@@ -356,22 +355,6 @@ public final class AttachTest {
         x.dump(200);
         CHECK.due("attach of all again", x.attach(), 104);
         CHECK.due("word of page 3", x.word(48), 300);
-    }
-
-    /** The same pages again, or none as before: neither kernel nor memory nor area can tell. */
-    private static void nothingElse() {
-        REFUSED.questionOnly("attach() of a new object", Scenes::empty, Desk::attach);
-        REFUSED.questionOnly("attach() of an erased area", Scenes::busy, Desk::attach);
-        REFUSED.questionOnly("attach() of an erased area, poked", Scenes::poked, Desk::attach);
-        REFUSED.questionOnly("attach() again", Scenes::attached, Desk::attach);
-        REFUSED.questionOnly("attach() again without page 0", Scenes::withoutPageZero, Desk::attach);
-        Desk x = new Desk();
-        CHECK.due("attach", x.attach(), 0);
-        CHECK.due("taskNew goes on", x.taskNew(1), 0);
-        x.attach();
-        x.poke(18, 5);
-        CHECK.memoryIs(x, 18, 5);
-        CHECK.state("dump, not halted", () -> x.dump(1));
     }
 
     private static void words() {

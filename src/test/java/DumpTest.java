@@ -14,7 +14,6 @@ public final class DumpTest {
         CHECK.sentence("ERASED at the beginning of a dump (bad ones, too)", DumpTest::erased);
         CHECK.sentence("Some may be BAD: they are passed over.", DumpTest::badSectors);
         CHECK.sentence("A sector is bad from now on (or not any more).", DumpTest::fromNowOn);
-        CHECK.sentence("A sector is bad: and nothing else", DumpTest::sectorAlone);
         CHECK.sentence("sector: IllegalArgumentException: there is none.", DumpTest::noSector);
         CHECK.sentence("The dump is FULL when a chunk does not fit into the sectors that are left.", DumpTest::full);
         CHECK.sentence("FULL when a chunk does not fit: what is before it stays", DumpTest::fullAtEachChunk);
@@ -224,30 +223,6 @@ public final class DumpTest {
         CHECK.due("area(1, 0)", x.area(1, 0), -1);
         CHECK.due("area(2, 1)", x.area(2, 1), 1);
         CHECK.due("area(3, 0)", x.area(3, 0), 50001);
-    }
-
-    private static void badAndGoodAgain(Desk x, int sector) {
-        x.sector(sector, true);
-        x.sector(sector, false);
-    }
-
-    private static void sectorAlone() {
-        for (int sector : new int[] {0, 2, 95}) {
-            REFUSED.questionOnly("a good sector is good", Scenes::busy, x -> x.sector(sector, false));
-            REFUSED.questionOnly("a good sector is good", Scenes::walked, x -> x.sector(sector, false));
-            REFUSED.questionOnly("bad and good again", Scenes::busy, x -> badAndGoodAgain(x, sector));
-            REFUSED.questionOnly("bad and good again", Scenes::walked, x -> badAndGoodAgain(x, sector));
-        }
-        Desk x = Scenes.busy();
-        x.sector(3, true);
-        CHECK.due("taskNew goes on", x.taskNew(1), 3);
-        x.poke(7, 9);
-        CHECK.memoryIs(x, 7, 9);
-        CHECK.state("dump, not halted", () -> x.dump(1));
-        Desk walked = Scenes.walked();
-        walked.sector(0, true);
-        CHECK.due("word(16)", walked.word(16), 7001);
-        CHECK.due("node(1, 0)", walked.node(1, 0), 40);
     }
 
     private static void noSector() {

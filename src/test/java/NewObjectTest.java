@@ -29,11 +29,12 @@ public final class NewObjectTest {
     }
 
     private static void firstArea() {
-        CHECK.erased(new Desk(), 0, 48);
-        CHECK.erased(new Desk(), 48, 96);
-        CHECK.erased(Scenes.busy(), 0, 16);
-        CHECK.erased(Scenes.poked(), 0, 16);
-        CHECK.erased(Scenes.halted(), 0, 16);
+        for (int from = 0; from < 96; from += 48) {
+            CHECK.erased(new Desk(), from, from + 48);
+            CHECK.erased(Scenes.busy(), from, from + 48);
+            CHECK.erased(Scenes.poked(), from, from + 48);
+            CHECK.erased(Scenes.halted(), from, from + 48);
+        }
     }
 
     private static void notHalted() {

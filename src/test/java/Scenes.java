@@ -84,6 +84,28 @@ final class Scenes {
         return x;
     }
 
+    /** The list walked last has two nodes and is broken behind them, at 41; the timers are broken at their head. */
+    static Desk walkedBroken() {
+        Desk x = busy();
+        x.poke(41, 36);
+        x.poke(1, 3);
+        x.halt();
+        x.dump(200);
+        x.attach();
+        x.walk(1);
+        x.walk(3);
+        return x;
+    }
+
+    /** Some sectors are bad, the first and the last one among them, and the kernel runs. */
+    static Desk withBadSectors() {
+        Desk x = busy();
+        for (int sector : new int[] {0, 1, 4, 7, 50, 93, 95}) {
+            x.sector(sector, true);
+        }
+        return x;
+    }
+
     /** Attached, but the power went before page 0 was there. */
     static Desk withoutPageZero() {
         Desk x = halted();

@@ -18,7 +18,6 @@ public final class WalkTest {
                 WalkTest::headAddresses);
         CHECK.sentence("how many nodes it has before its end or what breaks it", WalkTest::longestLists);
         CHECK.sentence("THE WALKER has the pages of these chunks", WalkTest::walksWhatIsAttached);
-        CHECK.sentence("Walks a list: and nothing else", WalkTest::nothingElse);
         CHECK.sentence("walk: IllegalArgumentException: no such list", WalkTest::noSuchList);
         CHECK.sentence("walk: IllegalStateException: nothing is attached, or page 0 is absent.",
                 WalkTest::cannotBeWalked);
@@ -308,18 +307,6 @@ public final class WalkTest {
         CHECK.due("attach of what memory never had", forged.attach(), 2);
         sound(forged, 0, 16, 33, 44);
         sound(forged, 1);
-    }
-
-    /** The list walked last is walked again, or another and then that one. */
-    private static void nothingElse() {
-        REFUSED.questionOnly("walk(3) again", Scenes::walked, x -> x.walk(3));
-        for (int list = 0; list < 6; list++) {
-            int l = list;
-            REFUSED.questionOnly("walk(" + l + ") and walk(3) again", Scenes::walked, x -> {
-                x.walk(l);
-                x.walk(3);
-            });
-        }
     }
 
     private static void noSuchList() {
